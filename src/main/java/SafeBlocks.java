@@ -1038,7 +1038,7 @@ public final class SafeBlocks {
         }
 
         boolean leavesPart(int step) {
-            return parts.of[wayLink[step - 1]] != parts.of[wayLink[step]];
+            return step > 0 && parts.of[wayLink[step - 1]] != parts.of[wayLink[step]];
         }
 
         int landSince(int steps) {

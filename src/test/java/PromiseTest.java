@@ -73,6 +73,7 @@ public final class PromiseTest {
         doubleSafe();
         way();
         since();
+        sinceParts();
         would();
         best();
         worst();
@@ -136,6 +137,11 @@ public final class PromiseTest {
         due("latest(1)", x.latest(1), NONE);
         due("undo(1)", x.undo(1), NONE);
         due("node(31, 0)", x.node(31, 0), 31);
+        due("node(4, 4)", x.node(4, 4), 0);
+        due("look(6)", x.look(6), 0);
+        due("look(10)", x.look(10), 0);
+        due("block(0, 4)", x.block(0, 4), NONE);
+        due("block(31, 10)", x.block(31, 10), 1);
         due("nodes(2)", x.nodes(2), true);
         due("node(1, 0)", x.node(1, 0), 1);
         due("node(2, 0)", x.node(2, 0), NONE);
@@ -644,6 +650,27 @@ public final class PromiseTest {
         due("since(5, 2, 2) again", x.since(5, 2, 2), NONE);
     }
 
+    private static void sinceParts() {
+        promise = 18;
+        // Triangles 0 1 2 (links 0, 1, 2), 2 3 4 (3, 4, 5) and 4 5 6 (6, 7, 8), then 3-5 (9), then
+        // 1-3 (10): parts 3 and 6 become one, then the first one with them.
+        SafeBlocks x = grown(8, 0, 1, 1, 2, 2, 0, 2, 3, 3, 4, 4, 2, 4, 5, 5, 6, 6, 4, 3, 5, 1, 3);
+        due("story(2, 6, 2)", x.story(2, 6, 2), 3);
+        due("story(2, 0, 2)", x.story(2, 0, 2), 3);
+        due("story(2, 8, 4)", x.story(2, 8, 4), 3);
+        due("since(0, 6, 0)", x.since(0, 6, 0), 8);
+        due("since(0, 6, 1)", x.since(0, 6, 1), 9);
+        due("since(0, 6, 2)", x.since(0, 6, 2), 11);
+        due("since(6, 0, 2)", x.since(6, 0, 2), 11);
+        due("since(2, 6, 2)", x.since(2, 6, 2), 10);
+        due("since(6, 3, 2)", x.since(6, 3, 2), 10);
+        due("since(3, 4, 2)", x.since(3, 4, 2), 6);
+        due("since(4, 5, 2)", x.since(4, 5, 2), 9);
+        due("since(0, 2, 2)", x.since(0, 2, 2), 3);
+        due("since(0, 3, 2)", x.since(0, 3, 2), 11);
+        due("since(7, 3, 2)", x.since(7, 3, 2), NONE);
+    }
+
     private static void would() {
         promise = 19;
         SafeBlocks x = example();
@@ -853,6 +880,13 @@ public final class PromiseTest {
         x.link(4, 1);
         due("ring(0, -1)", x.ring(0, -1), 3);
         due("ring(0, 1)", x.ring(0, 1), 4);
+        // Whichever end of a link is its first one, a ring goes along it.
+        x = grown(5, 1, 0, 2, 1, 3, 2, 3, 4, 0, 4);
+        int[] round = {0, 4, 3, 2, 1};
+        due("ring(0, -1)", x.ring(0, -1), 5);
+        for (int i = 0; i < 5; i++) {
+            due("ring(0, " + i + ")", x.ring(0, i), round[i]);
+        }
         x = path(32);
         x.link(31, 0);
         due("ring(31, -1)", x.ring(31, -1), 32);
