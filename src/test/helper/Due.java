@@ -3,6 +3,7 @@ import java.util.function.IntUnaryOperator;
 /** The answers that are due, sentence by sentence of the document. */
 final class Due {
     private static final int NONE = -1;
+    private static final int BEHIND = 3;
     private static final int[] FAR = {
         Integer.MIN_VALUE, Integer.MIN_VALUE + 1, -65, -33, 65, 1 << 16, Integer.MAX_VALUE - 1,
         Integer.MAX_VALUE,
@@ -47,7 +48,9 @@ final class Due {
             is(call + " what " + what, ask.applyAsInt(what), want[what]);
         }
         is(call + " what -1", ask.applyAsInt(-1), other);
-        is(call + " what " + want.length, ask.applyAsInt(want.length), other);
+        for (int what = want.length; what < want.length + BEHIND; what++) {
+            is(call + " what " + what, ask.applyAsInt(what), other);
+        }
         far(call + " what", other, ask);
     }
 
@@ -72,7 +75,9 @@ final class Due {
         }
         is(call + " i -1", ask.applyAsInt(-1), atNone);
         is(call + " i -2", ask.applyAsInt(-2), NONE);
-        is(call + " i " + want.length, ask.applyAsInt(want.length), NONE);
+        for (int i = want.length; i < want.length + BEHIND; i++) {
+            is(call + " i " + i, ask.applyAsInt(i), NONE);
+        }
         far(call + " i", NONE, ask);
     }
 

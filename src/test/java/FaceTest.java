@@ -33,6 +33,9 @@ public final class FaceTest {
             check(inside + " is static and hidden",
                 Modifier.isStatic(is) && !Modifier.isPublic(is) && !Modifier.isProtected(is));
             check(inside + " has some twenty fields at the most", inside.getDeclaredFields().length <= 20);
+            for (Method m : inside.getDeclaredMethods()) {
+                check(m + " has a name of its own", !names().contains(m.getName()));
+            }
         }
         check("at most twelve classes", face.getDeclaredClasses().length < 12);
         System.out.println(wrong == 0 ? "the face is as due" : wrong + " things of the face are not as due");
@@ -41,12 +44,17 @@ public final class FaceTest {
         }
     }
 
-    private static void methods() {
-        TreeSet<String> seen = new TreeSet<>();
+    private static TreeSet<String> names() {
         TreeSet<String> names = new TreeSet<>();
         for (String signature : FACE) {
             names.add(signature.substring(signature.indexOf(' ') + 1, signature.indexOf('(')));
         }
+        return names;
+    }
+
+    private static void methods() {
+        TreeSet<String> seen = new TreeSet<>();
+        TreeSet<String> names = names();
         for (Method m : SafeBlocks.class.getDeclaredMethods()) {
             StringBuilder told = new StringBuilder(m.getReturnType() + " " + m.getName() + "(");
             for (Class<?> type : m.getParameterTypes()) {

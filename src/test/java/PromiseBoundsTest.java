@@ -90,7 +90,7 @@ public final class PromiseBoundsTest {
         due.is("undo(1)", x.undo(1), 0);
         due.is("n NODES still", x.look(0), 5);
 
-        due.by("false if there can't be so many");
+        due.by("2. false if there can't be so many");
         for (int n : new int[] {1, 33, 0, -1, Integer.MIN_VALUE, Integer.MAX_VALUE}) {
             due.is("nodes(" + n + ")", Webs.example().nodes(n), false);
             due.same("nodes(" + n + ") changes nothing", Webs::example, () -> {
@@ -111,7 +111,7 @@ public final class PromiseBoundsTest {
         due.is("between lands", Webs.example().link(2, 9), BRIDGE);
         due.is("ends of the longest way", Webs.path(32).link(31, 0), 31);
 
-        due.by("NONE if one can't be");
+        due.by("3. NONE if one can't be");
         int[][] refused = {
             {-1, 0}, {0, -1}, {10, 0}, {0, 10}, {4, 4}, {-1, -1}, {10, 10}, {-1, 10},
             {Integer.MIN_VALUE, 0}, {0, Integer.MIN_VALUE}, {Integer.MAX_VALUE, 0}, {0, Integer.MAX_VALUE},
@@ -127,7 +127,7 @@ public final class PromiseBoundsTest {
         due.is("just inside: link(0, 9)", Webs.example().link(0, 9), BRIDGE);
         due.is("just inside: link(9, 0)", Webs.example().link(9, 0), BRIDGE);
 
-        due.by("or there are 64");
+        due.by("3. or there are 64");
         due.is("the 63rd", Webs.bundle(4, 62).link(0, 1), 0);
         due.is("the 64th", Webs.bundle(4, 63).link(0, 1), 0);
         due.is("the 65th, within a block", Webs.bundle(4, 64).link(0, 1), NONE);
@@ -162,7 +162,7 @@ public final class PromiseBoundsTest {
         due.is("undo(5) is too many now", x.undo(5), NONE);
         due.is("undo(4)", x.undo(4), 0);
 
-        due.by("NONE, and nothing happens, if there are not so many");
+        due.by("4. NONE, and nothing happens, if there are not so many");
         for (int k : new int[] {12, 13, 64, 65, Integer.MAX_VALUE, -1, Integer.MIN_VALUE}) {
             due.is("undo(" + k + ")", Webs.example().undo(k), NONE);
             due.same("undo(" + k + ") changes nothing", Webs::example, () -> undone(k));
@@ -198,13 +198,13 @@ public final class PromiseBoundsTest {
             return x;
         });
 
-        due.by("NONE, and no DRAW, if k can't be");
+        due.by("5. NONE, and no DRAW, if k can't be");
         for (int k : new int[] {0, -1, 65, Integer.MIN_VALUE, Integer.MAX_VALUE}) {
             due.is("rain(" + k + ")", new SafeBlocks().rain(k), NONE);
             due.same("rain(" + k + ") changes nothing", SafeBlocks::new, () -> rained(k));
         }
 
-        due.by("or there would be more than 64");
+        due.by("5. or there would be more than 64");
         due.is("rain(64) on 1", Webs.path(2).rain(64), NONE);
         due.is("rain(54) on 11", Webs.example().rain(54), NONE);
         due.is("rain(2) on 63", Webs.bundle(2, 63).rain(2), NONE);
@@ -255,14 +255,14 @@ public final class PromiseBoundsTest {
         due.is("by one that joins blocks", x.linkOf(7, 3), 11);
         due.is("ended once is ended", x.linkOf(0, 3), 2);
 
-        due.by("5 and 6 SIDES (NONE: it is no BRIDGE)");
+        due.by("7. 5 and 6 SIDES (NONE: it is no BRIDGE)");
         SafeBlocks y = Webs.example();
         due.whats("a BRIDGE", NONE, what -> y.linkOf(5, what), 1, 4, 1, NONE, 2, 2, 7, 5);
         due.whats("its first NODE above", NONE, what -> y.linkOf(6, what), 6, 7, 1, NONE, 3, 7, 2, 6);
         due.whats("no BRIDGE", NONE, what -> y.linkOf(10, what), 2, 4, 0, 10, 5, NONE, NONE, 8);
         due.whats("no BRIDGE", NONE, what -> y.linkOf(0, what), 4, 5, 0, 2, 0, NONE, NONE, 0);
 
-        due.by("NONE if there is none such, or another what");
+        due.by("7. NONE if there is none such, or another what");
         for (int what = 0; what < 8; what++) {
             due.is("linkOf(11, " + what + ")", Webs.example().linkOf(11, what), NONE);
             due.is("linkOf(-1, " + what + ")", Webs.example().linkOf(-1, what), NONE);
@@ -308,7 +308,7 @@ public final class PromiseBoundsTest {
         SafeBlocks mixed = Webs.example();
         due.whats("of three PARTS", NONE, what -> mixed.node(4, what), 4, 4, 5, 1, 3, 1, 0);
 
-        due.by("NONE if there is none such, or another what");
+        due.by("9. NONE if there is none such, or another what");
         for (int what = 0; what < 7; what++) {
             int which = what;
             SafeBlocks x = Webs.example();
@@ -331,17 +331,24 @@ public final class PromiseBoundsTest {
         SafeBlocks full = Webs.bundle(2, 64);
         due.whats("64 LINKS", NONE, what -> full.block(0, what), 2, 0, 64, 0, NONE, NONE, 0, 0, 0, 1, 2);
 
-        due.by("1 its least NODE");
+        due.by("10. 1 its least NODE");
         SafeBlocks named = Webs.grown(6, 4, 5, 5, 4, 0, 5, 0, 4, 0, 2);
         due.is("not its NAME", named.block(4, 1), 0);
         due.is("one NODE", named.block(2, 1), 2);
 
-        due.by("8 CUTS of it: NODES of it that are at two PARTS or more of LINKS within it, 9 how many PARTS of"
+        due.by("10. 8 CUTS of it: NODES of it that are at two PARTS or more of LINKS within it, 9 how many PARTS of"
             + " LINKS are within it");
         due.is("a BRIDGE is not within it", x.block(0, 8), 0);
         due.is("node(1, 5) though", x.node(1, 5), 1);
         due.is("two triangles", x.block(4, 8), 1);
         due.is("two triangles", x.block(4, 9), 2);
+        // Bows of two triangles at 0 and at 5 have a CUT each; the bridge between them makes two more.
+        SafeBlocks bows = Webs.grown(10, 0, 1, 1, 2, 2, 0, 0, 3, 3, 4, 4, 0, 5, 6, 6, 7, 7, 5, 5, 8, 8, 9, 9, 5, 4, 9);
+        due.is("bows: block(0, 8)", bows.block(0, 8), 1);
+        due.is("bows: block(5, 8)", bows.block(5, 8), 1);
+        due.is("bows: block(0, 9)", bows.block(0, 9), 2);
+        due.is("bows: block(5, 9)", bows.block(5, 9), 2);
+        due.is("bows: land(0, 6)", bows.land(0, 6), 4);
         // Nodes 0 .. 8, each linked twice with the next one.
         SafeBlocks chain = Webs.path(9);
         for (int v = 0; v < 8; v++) {
@@ -352,13 +359,13 @@ public final class PromiseBoundsTest {
         due.is("chain", chain.block(0, 9), 8);
         due.is("chain", chain.block(0, 2), 16);
 
-        due.by("10 NODES of all BLOCKS from it downwards");
+        due.by("10. 10 NODES of all BLOCKS from it downwards");
         SafeBlocks path = Webs.path(32);
         for (int v = 0; v < 32; v++) {
             due.is("block(" + v + ", 10)", path.block(v, 10), 32 - v);
         }
 
-        due.by("NONE if there is none such now, or another what");
+        due.by("10. NONE if there is none such now, or another what");
         for (int what = 0; what < 11; what++) {
             int which = what;
             SafeBlocks y = Webs.example();
@@ -391,6 +398,7 @@ public final class PromiseBoundsTest {
 
         due.by("12. The i-th BLOCK that has one as its PARENT (NAMES, rising). NONE if there is none such.");
         due.row("child(4)", i -> Webs.example().child(4, i), 0, 7);
+        due.row("child(7), no LAND's NAME", i -> Webs.example().child(7, i), 8);
         due.row("child(8)", i -> Webs.example().child(8, i));
         due.row("child(9)", i -> Webs.example().child(9, i));
         due.row("rising, whichever came first", i -> Webs.grown(8, 3, 6, 3, 1, 3, 7, 3, 0).child(3, i), 0, 1, 6, 7);
@@ -426,7 +434,7 @@ public final class PromiseBoundsTest {
         due.whats("of two", NONE, what -> both.land(1, what), 3, 3, 2, 2, 1, 1, 1, 2, 0, 2, 2);
         due.whats("of two", NONE, what -> both.land(3, what), 2, 2, 1, 1, 3, 1, 0, 1, 3, 4, 1);
 
-        due.by("NONE if there is none such now, or another what");
+        due.by("13. NONE if there is none such now, or another what");
         for (int what = 0; what < 11; what++) {
             int which = what;
             SafeBlocks y = Webs.example();
@@ -450,7 +458,7 @@ public final class PromiseBoundsTest {
         due.whats("ended by the first", NONE, what -> x.story(1, 5, what), 0, 0, 4, 1, 4);
         due.whats("a LAND now", NONE, what -> x.story(1, 4, what), 1, NONE, NONE, 9, 4);
 
-        due.by("3 the most NODES (PARTS: LINKS) that it ever had");
+        due.by("14. 3 the most NODES (PARTS: LINKS) that it ever had");
         SafeBlocks y = Webs.example();
         y.link(0, 8);
         due.whats("two, as it ended", NONE, what -> y.story(0, 0, what), 0, 11, 4, 2, 4);
@@ -461,7 +469,7 @@ public final class PromiseBoundsTest {
         y.undo(1);
         due.is("as ahead of the latest", y.story(0, 4, 3), 5);
 
-        due.by("4 the NAME that what it was has now (going on from INTO to INTO)");
+        due.by("14. 4 the NAME that what it was has now (going on from INTO to INTO)");
         // Lands 31 into 30 into 28 into 24 into 16 into 0: pairs, fours and so on, joined at the least.
         SafeBlocks far = Webs.grown(32);
         for (int half = 1; half < 32; half *= 2) {
@@ -479,7 +487,7 @@ public final class PromiseBoundsTest {
         due.is("land 31", far.story(1, 31, 4), 16);
         due.is("itself, if it is one", far.story(0, 31, 4), 31);
 
-        due.by("NONE if there is none such, or another what");
+        due.by("14. NONE if there is none such, or another what");
         SafeBlocks z = Webs.example();
         for (int what = 0; what < 5; what++) {
             int which = what;
@@ -536,13 +544,13 @@ public final class PromiseBoundsTest {
         due.is("the end is below it", Webs.grown(5, 0, 1, 2, 3, 1, 3).latest(0), 2);
         due.is("BLOCKS, not NODES", Webs.grown(8, 0, 1, 1, 2, 2, 3, 3, 4, 5, 6, 6, 7, 7, 5, 4, 7).latest(0), 1);
 
-        due.by("1 how many BLOCKS became one (1 if none did)");
+        due.by("15. 1 how many BLOCKS became one (1 if none did)");
         due.is("a BRIDGE", Webs.path(2).latest(1), 1);
         due.is("within a BLOCK", Webs.bundle(2, 3).latest(1), 1);
         due.is("two", Webs.bundle(2, 2).latest(1), 2);
         due.is("all 32", Webs.round(32).latest(1), 32);
 
-        due.by("2 the NAME of the BLOCK of its first NODE ahead of it, 3 that of its second one");
+        due.by("15. 2 the NAME of the BLOCK of its first NODE ahead of it, 3 that of its second one");
         SafeBlocks y = Webs.example();
         due.is("link(8, 1)", y.link(8, 1), 3);
         due.whats("ahead of it", NONE, y::latest, 0, 4, 8, 0);
@@ -555,7 +563,7 @@ public final class PromiseBoundsTest {
         y.link(3, 3);
         due.whats("of the latest that came", NONE, y::latest, 0, 3, 2, 4);
 
-        due.by("NONE if there are no LINKS, or another what");
+        due.by("15. NONE if there are no LINKS, or another what");
         due.noRow("no LINKS", new SafeBlocks()::latest);
         due.noRow("taken back", undone(11)::latest);
         SafeBlocks z = Webs.example();
@@ -599,7 +607,7 @@ public final class PromiseBoundsTest {
         due.counted("one NODE", i -> Webs.example().way(8, 8, i));
         due.counted("one NODE alone", i -> Webs.example().way(9, 9, i));
 
-        due.by("NONE if there is none such, or u and v are not in one LAND");
+        due.by("17. NONE if there is none such, or u and v are not in one LAND");
         due.noRow("unlike LANDS", i -> Webs.example().way(9, 4, i));
         due.noRow("unlike LANDS", i -> Webs.example().way(4, 9, i));
         for (int out : new int[] {10, -1, Integer.MIN_VALUE, Integer.MAX_VALUE}) {
@@ -618,7 +626,7 @@ public final class PromiseBoundsTest {
         due.whats("across 32", NONE, kind -> Webs.round(32).since(0, 31, kind), 31, 32, 32);
         due.whats("side by side", NONE, kind -> Webs.round(32).since(0, 1, kind), 1, 32, 32);
 
-        due.by("NONE if they are not, are one, or there are none such");
+        due.by("18. NONE if they are not, are one, or there are none such");
         due.whats("not in one LAND", NONE, kind -> Webs.example().since(9, 0, kind), NONE, NONE, NONE);
         due.whats("one", NONE, kind -> Webs.example().since(4, 4, kind), NONE, NONE, NONE);
         for (int out : new int[] {10, -1, Integer.MIN_VALUE, Integer.MAX_VALUE}) {
@@ -646,7 +654,7 @@ public final class PromiseBoundsTest {
             return x;
         });
 
-        due.by("NONE if there are none such, they are one, or another what");
+        due.by("19. NONE if there are none such, they are one, or another what");
         due.whats("one", NONE, what -> Webs.example().would(4, 4, what));
         for (int out : new int[] {10, -1, Integer.MIN_VALUE, Integer.MAX_VALUE}) {
             due.whats("none such", NONE, what -> Webs.example().would(out, 4, what));
@@ -660,7 +668,7 @@ public final class PromiseBoundsTest {
         due.whats("31", NONE, Webs.path(32)::best, 31, 0, 31);
         due.whats("example", NONE, Webs.example()::best, 3, 0, 8);
 
-        due.by("NONE if no LINK would end any, or another what");
+        due.by("20. NONE if no LINK would end any, or another what");
         due.noRow("no LINKS", new SafeBlocks()::best);
         due.noRow("no BRIDGES", Webs.bundle(2, 64)::best);
         due.noRow("no BRIDGES", Webs.round(3)::best);
@@ -673,7 +681,7 @@ public final class PromiseBoundsTest {
         due.whats("16 times 16", NONE, Webs.path(32)::worst, 15, 256);
         due.whats("example", NONE, Webs.example()::worst, 5, 14);
 
-        due.by("NONE if there are no BRIDGES, or another what");
+        due.by("21. NONE if there are no BRIDGES, or another what");
         due.noRow("no LINKS", new SafeBlocks()::worst);
         due.noRow("no BRIDGES", Webs.bundle(2, 64)::worst);
         due.noRow("no BRIDGES", Webs.round(3)::worst);
@@ -686,7 +694,7 @@ public final class PromiseBoundsTest {
         due.whats("the 31st", NONE, what -> Webs.path(32).part(30, what), 1, 2, 30);
         due.whats("the last", NONE, what -> Webs.example().part(5, what), 3, 3, 8);
 
-        due.by("NONE if there is none such, or another what");
+        due.by("22. NONE if there is none such, or another what");
         for (int out : new int[] {6, -1, Integer.MIN_VALUE, Integer.MAX_VALUE}) {
             due.whats("part(" + out + ")", NONE, what -> Webs.example().part(out, what));
         }
@@ -715,8 +723,11 @@ public final class PromiseBoundsTest {
         due.counted("one", i -> Webs.path(3).between(0, 2, i), 1);
         due.counted("none", i -> Webs.path(3).between(0, 1, i));
         due.counted("back", i -> Webs.example().between(8, 0, i), 7, 6, 4, 1);
+        due.counted("of a ring", i -> Webs.grown(8, 4, 5, 5, 6, 6, 7, 7, 4).between(4, 6, i));
+        due.counted("of a ring, back", i -> Webs.grown(8, 4, 5, 5, 6, 6, 7, 7, 4).between(6, 4, i));
+        due.counted("of a ring and on", i -> Webs.grown(8, 4, 5, 5, 6, 6, 7, 7, 4, 6, 2, 0, 4).between(0, 2, i), 4, 6);
 
-        due.by("NONE if there is none such, they are one, or in unlike LANDS");
+        due.by("24. NONE if there is none such, they are one, or in unlike LANDS");
         due.noRow("one", i -> Webs.example().between(8, 8, i));
         due.noRow("unlike LANDS", i -> Webs.example().between(8, 9, i));
         for (int out : new int[] {10, -1, Integer.MIN_VALUE, Integer.MAX_VALUE}) {
@@ -730,8 +741,14 @@ public final class PromiseBoundsTest {
         due.whats("the first of 16", NONE, what -> Webs.star(32).mending(0, 0, what), 1, 16);
         due.whats("the last of 16", NONE, what -> Webs.star(32).mending(0, 15, what), 16, 31);
         due.whats("one of one", NONE, what -> Webs.path(2).mending(0, 0, what), 0, 1);
+        // LAND 0, while block 0 has gone into block 1 (0 .. 3): node 4 hangs on it.
+        SafeBlocks x = Webs.grown(6, 0, 1, 1, 2, 2, 3, 1, 3, 3, 0, 3, 4);
+        due.is("story(0, 0, 2)", x.story(0, 0, 2), 1);
+        due.whats("of a LAND whose NAME is no BLOCK's", NONE, what -> x.mending(0, 0, what), 0, 4);
+        due.is("its MEND", x.land(0, 5), 1);
+        due.is("MEND of all LANDS together", x.look(8), 1);
 
-        due.by("NONE if there is none such, or another what");
+        due.by("25. NONE if there is none such, or another what");
         for (int what = 0; what < 2; what++) {
             int which = what;
             due.row("of one", k -> Webs.path(32).mending(0, k, which), 31 * which);
@@ -754,7 +771,7 @@ public final class PromiseBoundsTest {
         due.whats("a CUT", NONE, what -> x.without(1, 4, what), 5, 9, 4, 5);
         due.whats("the last NODE", NONE, what -> x.without(1, 9, what), 2, 5, 3, 6);
 
-        due.by("NONE if there is none such, or another what");
+        due.by("26. NONE if there is none such, or another what");
         SafeBlocks y = Webs.example();
         for (int out : new int[] {-1, 11, Integer.MIN_VALUE, Integer.MAX_VALUE}) {
             due.whats("no such LINK", NONE, what -> y.without(0, out, what));
@@ -778,7 +795,7 @@ public final class PromiseBoundsTest {
         due.is("to the first one", x.ring(5, 31), 5);
         due.is("behind it", x.ring(5, 32), NONE);
 
-        due.by("NONE if there is none such, or it is a BRIDGE");
+        due.by("27. NONE if there is none such, or it is a BRIDGE");
         for (int link : new int[] {5, 6, 7, 11, -1, Integer.MIN_VALUE, Integer.MAX_VALUE}) {
             due.noRow("ring(" + link + ")", i -> Webs.example().ring(link, i));
         }
@@ -794,8 +811,12 @@ public final class PromiseBoundsTest {
         due.whats("the most NODES", NONE, kind -> Webs.example().wouldName(0, 6, kind), 4, 4);
         due.whats("within a BLOCK", NONE, kind -> Webs.example().wouldName(6, 2, kind), 4, 4);
         due.whats("the least of 32", NONE, kind -> Webs.path(32).wouldName(31, 1, kind), 1, 0);
+        // Block 1 (1, 2, 3) in land 0 of four nodes, of which block 0 has one.
+        due.whats("a BLOCK by BLOCKS", NONE, kind -> Webs.grown(6, 0, 1, 1, 2, 2, 3, 3, 1).wouldName(0, 2, kind), 1, 0);
+        // Land 3 (3, 4, 5: three blocks) and land 0 (0, 1: one block).
+        due.whats("a LAND by LANDS", NONE, kind -> Webs.grown(6, 3, 4, 4, 5, 0, 1, 1, 0).wouldName(0, 3, kind), 0, 3);
 
-        due.by("NONE if there are none such, or they are one");
+        due.by("28. NONE if there are none such, or they are one");
         due.whats("one", NONE, kind -> Webs.example().wouldName(4, 4, kind));
         for (int out : new int[] {10, -1, Integer.MIN_VALUE, Integer.MAX_VALUE}) {
             due.whats("none such", NONE, kind -> Webs.example().wouldName(out, 4, kind));
@@ -834,7 +855,7 @@ public final class PromiseBoundsTest {
         }
         due.whats("16 LANDS", NONE - 9, pairs::look, 32, 16, 16, 32, 16, 16, 0, 16, 16, 0, 0, 1);
 
-        due.by("NONE - 9 for another what");
+        due.by("30. NONE - 9 for another what");
         due.is("look(-1)", Webs.example().look(-1), -10);
         due.is("look(12)", Webs.example().look(12), -10);
         due.is("look(-10)", Webs.example().look(-10), -10);

@@ -20,34 +20,6 @@ public final class PromiseTest {
         due(call, got ? 1 : 0, want ? 1 : 0);
     }
 
-    /** Links between the nodes of one row after the other, two by two. */
-    private static SafeBlocks grown(int n, int... ends) {
-        SafeBlocks x = new SafeBlocks();
-        x.nodes(n);
-        for (int i = 0; i + 1 < ends.length; i += 2) {
-            x.link(ends[i], ends[i + 1]);
-        }
-        return x;
-    }
-
-    /**
-     * Block 4 of nodes 2 .. 6 (two triangles that share node 4), block 0 of nodes 0 and 1 (two
-     * links), blocks 7 and 8; bridges 5 (1-4), 6 (6-7), 7 (7-8); node 9 alone.
-     */
-    private static SafeBlocks example() {
-        return grown(10, 4, 5, 5, 6, 6, 4, 0, 1, 1, 0, 1, 4, 6, 7, 7, 8, 4, 3, 3, 2, 2, 4);
-    }
-
-    /** A way through 0 .. n - 1, linked from the least on. */
-    private static SafeBlocks path(int n) {
-        SafeBlocks x = new SafeBlocks();
-        x.nodes(n);
-        for (int v = 0; v + 1 < n; v++) {
-            x.link(v, v + 1);
-        }
-        return x;
-    }
-
     public static void main(String[] args) {
         newObject();
         nodes();
@@ -116,7 +88,7 @@ public final class PromiseTest {
 
     private static void nodes() {
         promise = 2;
-        SafeBlocks x = example();
+        SafeBlocks x = Webs.example();
         x.state(77);
         due("nodes(1)", x.nodes(1), false);
         due("nodes(33)", x.nodes(33), false);
@@ -192,7 +164,7 @@ public final class PromiseTest {
 
     private static void undo() {
         promise = 4;
-        SafeBlocks x = example();
+        SafeBlocks x = Webs.example();
         x.state(5);
         due("undo(-1)", x.undo(-1), NONE);
         due("undo(12)", x.undo(12), NONE);
@@ -217,7 +189,7 @@ public final class PromiseTest {
 
     private static void undoNames() {
         promise = 4;
-        SafeBlocks x = grown(6, 0, 1, 2, 3, 3, 4, 1, 2);
+        SafeBlocks x = Webs.grown(6, 0, 1, 2, 3, 3, 4, 1, 2);
         due("land 2 is the greater", x.land(2, 4), 2);
         due("block(0, 4) when turned", x.block(0, 4), 1);
         due("story(1, 0, 1)", x.story(1, 0, 1), 3);
@@ -289,7 +261,7 @@ public final class PromiseTest {
 
     private static void linkOf() {
         promise = 7;
-        SafeBlocks x = example();
+        SafeBlocks x = Webs.example();
         int[][] rows = {
             {4, 5, 0, 2, 0, NONE, NONE, 0},
             {5, 6, 0, 2, 0, NONE, NONE, 0},
@@ -324,7 +296,7 @@ public final class PromiseTest {
 
     private static void bridge() {
         promise = 8;
-        SafeBlocks x = example();
+        SafeBlocks x = Webs.example();
         due("bridge(-1)", x.bridge(-1), 3);
         due("bridge(0)", x.bridge(0), 5);
         due("bridge(1)", x.bridge(1), 6);
@@ -338,7 +310,7 @@ public final class PromiseTest {
 
     private static void node() {
         promise = 9;
-        SafeBlocks x = example();
+        SafeBlocks x = Webs.example();
         int[][] rows = {
             {0, 4, 2, 0, 1, 0, 1}, {0, 4, 3, 1, 2, 1, 1}, {4, 4, 2, 0, 1, 0, 0}, {4, 4, 2, 0, 1, 0, 0},
             {4, 4, 5, 1, 3, 1, 0}, {4, 4, 2, 0, 1, 0, 0}, {4, 4, 3, 1, 2, 1, 0}, {7, 4, 2, 2, 2, 1, 1},
@@ -357,7 +329,7 @@ public final class PromiseTest {
 
     private static void block() {
         promise = 10;
-        SafeBlocks x = example();
+        SafeBlocks x = Webs.example();
         int[] names = {0, 4, 7, 8, 9};
         int[][] rows = {
             {2, 0, 2, 1, 4, 5, 1, 0, 0, 1, 2},
@@ -380,7 +352,7 @@ public final class PromiseTest {
 
     private static void member() {
         promise = 11;
-        SafeBlocks x = example();
+        SafeBlocks x = Webs.example();
         for (int i = 0; i < 5; i++) {
             due("member(4, " + i + ")", x.member(4, i), i + 2);
         }
@@ -395,7 +367,7 @@ public final class PromiseTest {
 
     private static void child() {
         promise = 12;
-        SafeBlocks x = example();
+        SafeBlocks x = Webs.example();
         due("child(4, 0)", x.child(4, 0), 0);
         due("child(4, 1)", x.child(4, 1), 7);
         due("child(4, 2)", x.child(4, 2), NONE);
@@ -414,7 +386,7 @@ public final class PromiseTest {
     private static void turning() {
         promise = 12;
         // Land 2 (2, 3, 4) is turned at 4 under land 0 of four nodes: 4, 3, 2 hang below 1.
-        SafeBlocks x = grown(9, 0, 1, 1, 5, 5, 6, 2, 3, 3, 4, 4, 1);
+        SafeBlocks x = Webs.grown(9, 0, 1, 1, 5, 5, 6, 2, 3, 3, 4, 4, 1);
         due("latest(0)", x.latest(0), 3);
         due("block(4, 4)", x.block(4, 4), 1);
         due("block(4, 5)", x.block(4, 5), 5);
@@ -424,13 +396,13 @@ public final class PromiseTest {
         due("block(2, 5)", x.block(2, 5), 3);
         due("land(0, 4)", x.land(0, 4), 0);
         // Like sizes: the land with the greater name is turned, though its end comes first.
-        x = grown(6, 2, 3, 0, 1, 3, 1);
+        x = Webs.grown(6, 2, 3, 0, 1, 3, 1);
         due("latest(0)", x.latest(0), 2);
         due("block(3, 4)", x.block(3, 4), 1);
         due("block(2, 4)", x.block(2, 4), 3);
         due("land(0, 4)", x.land(0, 4), 0);
         // The block of the whole way takes the parent of that nearest to the root.
-        x = grown(8, 0, 1, 1, 2, 2, 3, 2, 4, 4, 5, 3, 6, 5, 3);
+        x = Webs.grown(8, 0, 1, 1, 2, 2, 3, 2, 4, 4, 5, 3, 6, 5, 3);
         due("latest(1)", x.latest(1), 4);
         due("block(2, 0)", x.block(2, 0), 4);
         due("block(2, 4)", x.block(2, 4), 1);
@@ -442,7 +414,7 @@ public final class PromiseTest {
 
     private static void land() {
         promise = 13;
-        SafeBlocks x = example();
+        SafeBlocks x = Webs.example();
         int[] want = {9, 4, 3, 11, 4, 1, 4, 3, 0, 8, 6};
         int[] alone = {1, 1, 0, 0, 9, 0, 0, 0, 9, 9, 0};
         for (int what = 0; what < 11; what++) {
@@ -460,7 +432,7 @@ public final class PromiseTest {
     private static void landLongest() {
         promise = 13;
         // A star: of all pairs of its ends the one with the least names.
-        SafeBlocks x = grown(7, 3, 6, 3, 5, 3, 1, 3, 4);
+        SafeBlocks x = Webs.grown(7, 3, 6, 3, 5, 3, 1, 3, 4);
         due("land(3, 7)", x.land(3, 7), 2);
         due("land(3, 8)", x.land(3, 8), 1);
         due("land(3, 9)", x.land(3, 9), 4);
@@ -469,12 +441,12 @@ public final class PromiseTest {
         due("land(3, 9)", x.land(3, 9), 2);
         due("five ends: land(3, 5)", x.land(3, 5), 3);
         // The least name is no end of the longest way.
-        x = grown(6, 4, 0, 0, 5, 5, 3);
+        x = Webs.grown(6, 4, 0, 0, 5, 5, 3);
         due("land(0, 7)", x.land(0, 7), 3);
         due("land(0, 8)", x.land(0, 8), 3);
         due("land(0, 9)", x.land(0, 9), 4);
         // A land that is one block: the block is both ends.
-        x = grown(4, 3, 2, 2, 1, 1, 3);
+        x = Webs.grown(4, 3, 2, 2, 1, 1, 3);
         due("land(2, 7)", x.land(2, 7), 0);
         due("land(2, 8)", x.land(2, 8), x.node(3, 0));
         due("land(2, 9)", x.land(2, 9), x.node(3, 0));
@@ -482,7 +454,7 @@ public final class PromiseTest {
 
     private static void storyBlocks() {
         promise = 14;
-        SafeBlocks x = example();
+        SafeBlocks x = Webs.example();
         int[][] rows = {
             {1, NONE, NONE, 2, 0}, {0, 4, 0, 1, 0}, {0, 10, 4, 1, 4}, {0, 10, 4, 1, 4},
             {1, NONE, NONE, 5, 4}, {0, 2, 4, 1, 4}, {0, 2, 4, 1, 4}, {1, NONE, NONE, 1, 7},
@@ -509,7 +481,7 @@ public final class PromiseTest {
 
     private static void storyLands() {
         promise = 14;
-        SafeBlocks x = example();
+        SafeBlocks x = Webs.example();
         due("story(1, 4, 0)", x.story(1, 4, 0), 1);
         due("story(1, 4, 3)", x.story(1, 4, 3), 9);
         due("story(1, 0, 0)", x.story(1, 0, 0), 0);
@@ -521,14 +493,14 @@ public final class PromiseTest {
         due("story(1, 9, 4)", x.story(1, 9, 4), 9);
         due("story(1, 10, 0)", x.story(1, 10, 0), NONE);
         // Of like lands the least name keeps its own.
-        x = grown(4, 3, 1, 2, 0, 0, 1);
+        x = Webs.grown(4, 3, 1, 2, 0, 0, 1);
         due("story(1, 1, 2)", x.story(1, 1, 2), 0);
         due("story(1, 3, 4)", x.story(1, 3, 4), 0);
     }
 
     private static void storyParts() {
         promise = 14;
-        SafeBlocks x = example();
+        SafeBlocks x = Webs.example();
         due("story(2, 0, 3)", x.story(2, 0, 3), 3);
         due("story(2, 2, 0)", x.story(2, 2, 0), 0);
         due("story(2, 2, 1) ends as it comes", x.story(2, 2, 1), 2);
@@ -545,7 +517,7 @@ public final class PromiseTest {
         due("story(2, 0, 3)", x.story(2, 0, 3), 7);
         due("story(2, 10, 4) over two", x.story(2, 10, 4), 0);
         // The part with the most links keeps its name, though another's is less.
-        x = grown(5, 0, 1, 1, 2, 2, 3, 3, 1, 3, 0);
+        x = Webs.grown(5, 0, 1, 1, 2, 2, 3, 3, 1, 3, 0);
         due("story(2, 0, 2)", x.story(2, 0, 2), 1);
         due("linkOf(0, 7)", x.linkOf(0, 7), 1);
         due("linkOf(0, 4)", x.linkOf(0, 4), 0);
@@ -558,7 +530,7 @@ public final class PromiseTest {
         for (int what = -1; what < 5; what++) {
             due("latest(" + what + ") of none", x.latest(what), NONE);
         }
-        x = grown(8, 3, 2, 2, 4, 5, 6, 6, 7, 0, 1, 1, 7);
+        x = Webs.grown(8, 3, 2, 2, 4, 5, 6, 6, 7, 0, 1, 1, 7);
         due("latest(0)", x.latest(0), 2);
         due("latest(1)", x.latest(1), 1);
         due("latest(2)", x.latest(2), 1);
@@ -579,14 +551,14 @@ public final class PromiseTest {
         x.undo(1);
         due("latest(1) of the one before", x.latest(1), 4);
         // Land 2 (2, 3, 4), whose ends have a block between them, is turned: three blocks.
-        x = grown(12, 5, 6, 6, 7, 7, 8, 8, 9, 9, 10, 2, 3, 3, 4, 4, 3, 4, 1);
+        x = Webs.grown(12, 5, 6, 6, 7, 7, 8, 8, 9, 9, 10, 2, 3, 3, 4, 4, 3, 4, 1);
         x.link(1, 5);
         due("blocks are turned, not nodes", x.latest(0), 3);
     }
 
     private static void doubleSafe() {
         promise = 16;
-        SafeBlocks x = example();
+        SafeBlocks x = Webs.example();
         due("doubleSafe(5, 6)", x.doubleSafe(5, 6), 1);
         due("doubleSafe(5, 3) of one block", x.doubleSafe(5, 3), 0);
         due("doubleSafe(0, 1) by two links", x.doubleSafe(0, 1), 1);
@@ -602,7 +574,7 @@ public final class PromiseTest {
 
     private static void way() {
         promise = 17;
-        SafeBlocks x = example();
+        SafeBlocks x = Webs.example();
         due("way(0, 8, -1)", x.way(0, 8, -1), 3);
         due("way(0, 8, 0)", x.way(0, 8, 0), 5);
         due("way(0, 8, 1)", x.way(0, 8, 1), 6);
@@ -623,7 +595,7 @@ public final class PromiseTest {
 
     private static void since() {
         promise = 18;
-        SafeBlocks x = example();
+        SafeBlocks x = Webs.example();
         due("since(4, 6, 0)", x.since(4, 6, 0), 2);
         due("since(4, 6, 1)", x.since(4, 6, 1), 3);
         due("since(4, 6, 2)", x.since(4, 6, 2), 3);
@@ -654,7 +626,7 @@ public final class PromiseTest {
         promise = 18;
         // Triangles 0 1 2 (links 0, 1, 2), 2 3 4 (3, 4, 5) and 4 5 6 (6, 7, 8), then 3-5 (9), then
         // 1-3 (10): parts 3 and 6 become one, then the first one with them.
-        SafeBlocks x = grown(8, 0, 1, 1, 2, 2, 0, 2, 3, 3, 4, 4, 2, 4, 5, 5, 6, 6, 4, 3, 5, 1, 3);
+        SafeBlocks x = Webs.grown(8, 0, 1, 1, 2, 2, 0, 2, 3, 3, 4, 4, 2, 4, 5, 5, 6, 6, 4, 3, 5, 1, 3);
         due("story(2, 6, 2)", x.story(2, 6, 2), 3);
         due("story(2, 0, 2)", x.story(2, 0, 2), 3);
         due("story(2, 8, 4)", x.story(2, 8, 4), 3);
@@ -673,7 +645,7 @@ public final class PromiseTest {
 
     private static void would() {
         promise = 19;
-        SafeBlocks x = example();
+        SafeBlocks x = Webs.example();
         due("would(0, 8, 0)", x.would(0, 8, 0), 3);
         due("would(0, 8, 1)", x.would(0, 8, 1), 9);
         due("would(3, 8, 0)", x.would(3, 8, 0), 2);
@@ -693,7 +665,7 @@ public final class PromiseTest {
 
     private static void best() {
         promise = 20;
-        SafeBlocks x = example();
+        SafeBlocks x = Webs.example();
         due("best(0)", x.best(0), 3);
         due("best(1)", x.best(1), 0);
         due("best(2)", x.best(2), 8);
@@ -704,18 +676,18 @@ public final class PromiseTest {
             due("best without bridges", x.best(what), NONE);
         }
         // The pair is of nodes: of several the first, whatever the names.
-        x = grown(6, 5, 4, 4, 3, 0, 1);
+        x = Webs.grown(6, 5, 4, 4, 3, 0, 1);
         due("best(0)", x.best(0), 2);
         due("best(1)", x.best(1), 3);
         due("best(2)", x.best(2), 5);
-        x = grown(4, 3, 2, 1, 0);
+        x = Webs.grown(4, 3, 2, 1, 0);
         due("best(1) of like ones", x.best(1), 0);
         due("best(2) of like ones", x.best(2), 1);
     }
 
     private static void worst() {
         promise = 21;
-        SafeBlocks x = example();
+        SafeBlocks x = Webs.example();
         due("worst(0) of like ones the first", x.worst(0), 5);
         due("worst(1)", x.worst(1), 14);
         due("worst(2)", x.worst(2), NONE);
@@ -723,16 +695,16 @@ public final class PromiseTest {
         x.link(9, 8);
         due("worst(0)", x.worst(0), 6);
         due("worst(1)", x.worst(1), 21);
-        x = grown(4, 0, 1, 1, 2, 2, 0);
+        x = Webs.grown(4, 0, 1, 1, 2, 2, 0);
         due("worst(0) without bridges", x.worst(0), NONE);
         due("worst(1) without bridges", x.worst(1), NONE);
-        due("worst(1) of 32", path(32).worst(1), 256);
-        due("worst(0) of 32", path(32).worst(0), 15);
+        due("worst(1) of 32", Webs.path(32).worst(1), 256);
+        due("worst(0) of 32", Webs.path(32).worst(0), 15);
     }
 
     private static void part() {
         promise = 22;
-        SafeBlocks x = example();
+        SafeBlocks x = Webs.example();
         int[][] rows = {{3, 3, 0}, {2, 2, 3}, {1, 2, 5}, {1, 2, 6}, {1, 2, 7}, {3, 3, 8}};
         for (int p = 0; p < rows.length; p++) {
             for (int what = 0; what < 3; what++) {
@@ -752,7 +724,7 @@ public final class PromiseTest {
 
     private static void centre() {
         promise = 23;
-        SafeBlocks x = example();
+        SafeBlocks x = Webs.example();
         due("centre(4) of two the least name", x.centre(4), 4);
         due("centre(9)", x.centre(9), 9);
         due("centre(0) of an ended name", x.centre(0), NONE);
@@ -760,15 +732,15 @@ public final class PromiseTest {
         due("centre(10)", x.centre(10), NONE);
         x.link(8, 9);
         due("centre(4)", x.centre(4), 7);
-        due("centre of a path of 5", path(5).centre(0), 2);
-        due("centre of a path of 6", path(6).centre(0), 2);
+        due("centre of a path of 5", Webs.path(5).centre(0), 2);
+        due("centre of a path of 6", Webs.path(6).centre(0), 2);
         // The middle blocks are 5 and 1: the least name, though it is not the root.
-        due("centre of 4", grown(6, 3, 5, 5, 1, 1, 2).centre(3), 1);
+        due("centre of 4", Webs.grown(6, 3, 5, 5, 1, 1, 2).centre(3), 1);
     }
 
     private static void between() {
         promise = 24;
-        SafeBlocks x = example();
+        SafeBlocks x = Webs.example();
         due("between(0, 8, -1)", x.between(0, 8, -1), 4);
         due("between(0, 8, 0)", x.between(0, 8, 0), 1);
         due("between(0, 8, 1)", x.between(0, 8, 1), 4);
@@ -793,7 +765,7 @@ public final class PromiseTest {
 
     private static void mending() {
         promise = 25;
-        SafeBlocks x = example();
+        SafeBlocks x = Webs.example();
         due("mending(4, 0, 0)", x.mending(4, 0, 0), 0);
         due("mending(4, 0, 1)", x.mending(4, 0, 1), 8);
         due("mending(4, 1, 0)", x.mending(4, 1, 0), NONE);
@@ -804,7 +776,7 @@ public final class PromiseTest {
         due("mending(0, 0, 0) of an ended name", x.mending(0, 0, 0), NONE);
         due("mending(10, 0, 0)", x.mending(10, 0, 0), NONE);
         // Root 3; children 1 (with 6 below) and 4, 5: the row 6, 4, 5 of three ends.
-        x = grown(8, 3, 4, 3, 5, 3, 1, 1, 6);
+        x = Webs.grown(8, 3, 4, 3, 5, 3, 1, 1, 6);
         due("three ends", x.land(3, 5), 2);
         due("mending(3, 0, 0)", x.mending(3, 0, 0), 6);
         due("mending(3, 0, 1)", x.mending(3, 0, 1), 4);
@@ -812,11 +784,11 @@ public final class PromiseTest {
         due("mending(3, 1, 1)", x.mending(3, 1, 1), 5);
         due("mending(3, 2, 0)", x.mending(3, 2, 0), NONE);
         // The root is an end itself, ahead of all.
-        x = path(4);
+        x = Webs.path(4);
         due("mending(0, 0, 0) of a path", x.mending(0, 0, 0), 0);
         due("mending(0, 0, 1) of a path", x.mending(0, 0, 1), 3);
         // Of a block its least node, not the one that it is named by.
-        x = grown(6, 4, 5, 3, 1, 3, 2, 2, 1, 3, 0, 0, 1, 3, 4);
+        x = Webs.grown(6, 4, 5, 3, 1, 3, 2, 2, 1, 3, 0, 0, 1, 3, 4);
         due("the block of 0, 1, 2, 3", x.node(0, 0), 1);
         due("mending(1, 0, 0)", x.mending(1, 0, 0), 0);
         due("mending(1, 0, 1)", x.mending(1, 0, 1), 5);
@@ -824,7 +796,7 @@ public final class PromiseTest {
 
     private static void without() {
         promise = 26;
-        SafeBlocks x = example();
+        SafeBlocks x = Webs.example();
         int[][] links = {
             {2, 7, 5, 7}, {2, 7, 5, 7}, {2, 7, 5, 7}, {2, 6, 4, 6}, {2, 6, 4, 6},
             {3, 5, 2, 5}, {3, 5, 2, 5}, {3, 5, 2, 5}, {2, 7, 5, 7}, {2, 7, 5, 7}, {2, 7, 5, 7},
@@ -854,7 +826,7 @@ public final class PromiseTest {
 
     private static void ring() {
         promise = 27;
-        SafeBlocks x = example();
+        SafeBlocks x = Webs.example();
         due("ring(0, -1)", x.ring(0, -1), 3);
         due("ring(0, 0)", x.ring(0, 0), 5);
         due("ring(0, 1)", x.ring(0, 1), 6);
@@ -870,7 +842,7 @@ public final class PromiseTest {
         due("ring(11, -1)", x.ring(11, -1), NONE);
         due("ring(-1, -1)", x.ring(-1, -1), NONE);
         // From 0 to 1 over 4 and 2, or over 3 and 5: 3 is less than 4 as a first step.
-        x = grown(6, 1, 0, 0, 4, 4, 2, 2, 1, 0, 3, 3, 5, 5, 1);
+        x = Webs.grown(6, 1, 0, 0, 4, 4, 2, 2, 1, 0, 3, 3, 5, 5, 1);
         due("ring(0, -1)", x.ring(0, -1), 4);
         due("ring(0, 0)", x.ring(0, 0), 0);
         due("ring(0, 1)", x.ring(0, 1), 3);
@@ -881,13 +853,13 @@ public final class PromiseTest {
         due("ring(0, -1)", x.ring(0, -1), 3);
         due("ring(0, 1)", x.ring(0, 1), 4);
         // Whichever end of a link is its first one, a ring goes along it.
-        x = grown(5, 1, 0, 2, 1, 3, 2, 3, 4, 0, 4);
+        x = Webs.grown(5, 1, 0, 2, 1, 3, 2, 3, 4, 0, 4);
         int[] round = {0, 4, 3, 2, 1};
         due("ring(0, -1)", x.ring(0, -1), 5);
         for (int i = 0; i < 5; i++) {
             due("ring(0, " + i + ")", x.ring(0, i), round[i]);
         }
-        x = path(32);
+        x = Webs.path(32);
         x.link(31, 0);
         due("ring(31, -1)", x.ring(31, -1), 32);
         due("ring(31, 0)", x.ring(31, 0), 0);
@@ -897,7 +869,7 @@ public final class PromiseTest {
 
     private static void wouldName() {
         promise = 28;
-        SafeBlocks x = example();
+        SafeBlocks x = Webs.example();
         due("wouldName(0, 8, 0)", x.wouldName(0, 8, 0), 4);
         due("wouldName(8, 7, 0) of like ones the least", x.wouldName(8, 7, 0), 7);
         due("wouldName(0, 9, 0) of unlike lands", x.wouldName(0, 9, 0), 0);
@@ -911,12 +883,12 @@ public final class PromiseTest {
         due("wouldName(-1, 2, 0)", x.wouldName(-1, 2, 0), NONE);
         due("wouldName(2, 5, 2)", x.wouldName(2, 5, 2), NONE);
         due("wouldName(2, 5, -1)", x.wouldName(2, 5, -1), NONE);
-        due("wouldName(5, 3, 1) of like lands", grown(6, 5, 4, 3, 2).wouldName(5, 3, 1), 2);
+        due("wouldName(5, 3, 1) of like lands", Webs.grown(6, 5, 4, 3, 2).wouldName(5, 3, 1), 2);
     }
 
     private static void bridgesBy() {
         promise = 29;
-        SafeBlocks x = example();
+        SafeBlocks x = Webs.example();
         int[] want = {0, 1, 2, 0, 1, 0, 1, 2, 3, 4, 5, 3};
         for (int k = 0; k < want.length; k++) {
             due("bridgesBy(" + k + ")", x.bridgesBy(k), want[k]);
@@ -929,7 +901,7 @@ public final class PromiseTest {
 
     private static void look() {
         promise = 30;
-        SafeBlocks x = example();
+        SafeBlocks x = Webs.example();
         x.state(-9);
         int[] want = {10, 11, 3, 5, 2, 6, 4, 25, 1, -9, 7, 2};
         for (int what = 0; what < want.length; what++) {
@@ -939,14 +911,14 @@ public final class PromiseTest {
         due("look(-1)", x.look(-1), NONE - 9);
         due("look(greatest int)", x.look(Integer.MAX_VALUE), NONE - 9);
         // Three lands with bridges: the mends of all are added.
-        x = grown(9, 0, 1, 2, 3, 4, 5, 4, 6, 4, 7);
+        x = Webs.grown(9, 0, 1, 2, 3, 4, 5, 4, 6, 4, 7);
         due("look(8)", x.look(8), 4);
         due("look(4)", x.look(4), 4);
     }
 
     private static void lookFull() {
         promise = 30;
-        SafeBlocks x = path(32);
+        SafeBlocks x = Webs.path(32);
         due("look(7)", x.look(7), 496);
         due("look(11)", x.look(11), 31);
         due("look(6)", x.look(6), 30);

@@ -529,6 +529,25 @@ public final class TermsBoundsTest {
         due.is("since(0, 4, 0)", x.since(0, 4, 0), 5);
         due.is("since(0, 4, 1)", x.since(0, 4, 1), 6);
         due.is("since(0, 4, 2)", x.since(0, 4, 2), 7);
+        sinceOverNames();
+    }
+
+    /** Parts at node 2: 13 goes into 9 by link 16, 9 into 0 by link 17. */
+    private static void sinceOverNames() {
+        SafeBlocks x = Webs.grown(8, 0, 1, 1, 2, 2, 3, 3, 0, 0, 1, 0, 1, 0, 1, 1, 2, 1, 2,
+            2, 4, 4, 5, 5, 2, 4, 5, 2, 6, 6, 7, 7, 2, 7, 4, 5, 3);
+        due.is("story(2, 13, 2)", x.story(2, 13, 2), 9);
+        due.is("story(2, 13, 1)", x.story(2, 13, 1), 16);
+        due.is("story(2, 9, 2)", x.story(2, 9, 2), 0);
+        due.is("story(2, 9, 1)", x.story(2, 9, 1), 17);
+        due.is("since(1, 6, 2)", x.since(1, 6, 2), 18);
+        due.is("since(6, 1, 2)", x.since(6, 1, 2), 18);
+        due.is("since(1, 4, 2)", x.since(1, 4, 2), 18);
+        due.is("since(4, 1, 2)", x.since(4, 1, 2), 18);
+        due.is("since(4, 6, 2)", x.since(4, 6, 2), 17);
+        due.is("since(6, 4, 2)", x.since(6, 4, 2), 17);
+        due.is("since(4, 5, 2)", x.since(4, 5, 2), 12);
+        due.is("since(1, 6, 1)", x.since(1, 6, 1), 16);
     }
 
     /** Whether with the first links alone two nodes are so. */
