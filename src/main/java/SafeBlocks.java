@@ -938,7 +938,8 @@ public final class SafeBlocks {
             int left = highU;
             int right = highV;
             int steps = 0;
-            while (steps < nodes && a != b && a != NONE && b != NONE) {
+            // A way has fewer links than nodes, so its rows hold its last node too.
+            while (steps < nodes - 1 && a != b && a != NONE && b != NONE) {
                 if (left >= right) {
                     a = up[a];
                     left--;
